@@ -95,11 +95,12 @@ final class Check {
         sameBehind(what, called, kept);
     }
 
-    /** The call answers, is not counted, and changes nothing. */
+    /** The call answers, the same if it is asked again, is not counted, and changes nothing. */
     void answers(String what, Supplier<SquaredRows> made, Call call, long want) {
         SquaredRows called = made.get();
         SquaredRows kept = made.get();
         due(what, call.on(called), want);
+        due(what + ", again", call.on(called), want);
         due(what + ", then digest()", called.digest(), kept.digest());
         sameBehind(what, called, kept);
     }
@@ -128,8 +129,18 @@ final class Check {
         sameBehind(what + ", then back(),", called, kept);
     }
 
+    /** What came ahead of the call makes no difference to it. */
+    void sameAfter(String what, Supplier<SquaredRows> made, Call ahead, Call call) {
+        SquaredRows called = made.get();
+        SquaredRows kept = made.get();
+        ahead.on(called);
+        due(what, call.on(called), call.on(kept));
+        sameBehind(what, called, kept);
+    }
+
     /** Just outside and far outside it is BAD; at the two ends the answers are these. */
-    void bounds(String what, Supplier<SquaredRows> made, NumberCall call, int[] ends, long[] wants) {
+    void bounds(String what, Supplier<SquaredRows> made, NumberCall call, int[] ends,
+            long[] wants) {
         outside(what, made, call, ends[0], ends[1]);
         for (int i = 0; i < ends.length; i++) {
             int v = ends[i];

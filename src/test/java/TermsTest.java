@@ -43,6 +43,8 @@ public final class TermsTest {
         noStates();
         orderOfRefusals();
         refusalsAreCounted();
+        changesAfterRefusals();
+        questionsAfterQuestions();
         fractionsInLowestTerms();
         CHECK.end();
     }
@@ -175,7 +177,8 @@ public final class TermsTest {
         CHECK.sentence("P IS, if K is 2 n or more (n 0: always)");
         for (int size = 1; size <= 7; size++) {
             Supplier<SquaredRows> some = row(first(size, MANY));
-            CHECK.ratio("K " + size + ", P of 0", some, (x, what) -> x.polynomial(0, 0, what), 1, 1);
+            CHECK.ratio("K " + size + ", P of 0", some, (x, what) -> x.polynomial(0, 0, what),
+                    1, 1);
             for (int n = 1; n <= 3; n++) {
                 int degree = n;
                 String call = "K " + size + ", P of " + n;
@@ -204,8 +207,10 @@ public final class TermsTest {
                 new int[] {1, 0, 1, 0, 2, 0});
         CHECK.sentence("P IS, whatever the DETS ahead of it are");
         CHECK.answers("P of 2 without P of 1", row(0, 1, 0, 0), x -> x.polynomial(2, 2, 0), 1);
-        CHECK.answers("P of 3 without P of 2", row(1, 1, 1, 2, 0, 0), x -> x.polynomial(3, 3, 0), 1);
-        CHECK.answers("P of 3 without others", row(0, 0, 1, 0, 0, 0), x -> x.polynomial(3, 3, 0), 1);
+        CHECK.answers("P of 3 without P of 2", row(1, 1, 1, 2, 0, 0),
+                x -> x.polynomial(3, 3, 0), 1);
+        CHECK.answers("P of 3 without others", row(0, 0, 1, 0, 0, 0),
+                x -> x.polynomial(3, 3, 0), 1);
     }
 
     /** Rows whose determinant is -1, 0 and 1. */
@@ -781,6 +786,46 @@ public final class TermsTest {
         }
         CHECK.due("bad", x.told(0), 20);
         CHECK.due("no", x.told(1), 20);
+    }
+
+    private static void changesAfterRefusals() {
+        CHECK.sentence("changing nothing: the next call finds THE ROW as it was");
+        Check.Call[] ahead = {x -> x.moment(3, 1), x -> x.moment(0, 501), x -> x.more(501),
+            x -> x.adds(9, 99), x -> x.adds(0, 100), x -> x.moves(9), x -> x.moves(10),
+            x -> x.stretches(9), x -> x.stretches(10), x -> x.weighs(-9), x -> x.weighs(10),
+            x -> x.reads(), x -> backAfter(x, x.moment(1, 77)), x -> backAfter(x, x.more(77)),
+            x -> backAfter(x, x.less()), x -> backAfter(x, x.weighs(0))};
+        Check.Call[] changes = {x -> x.moment(0, 7), x -> x.more(5), x -> x.less(),
+            x -> x.adds(1, 1), x -> x.moves(-1), x -> x.stretches(-1), x -> x.weighs(0)};
+        for (int i = 0; i < ahead.length; i++) {
+            for (int k = 0; k < changes.length; k++) {
+                CHECK.sameAfter("change " + k + " behind what is refused or taken back, " + i,
+                        Check.text("k 1;v 9;", 100, 200, 300), ahead[i], changes[k]);
+            }
+        }
+    }
+
+    private static long backAfter(SquaredRows x, long changed) {
+        return changed + x.back();
+    }
+
+    private static void questionsAfterQuestions() {
+        CHECK.sentence("a question changes nothing");
+        Check.Call[] questions = {x -> x.of(2), x -> x.determinant(0, 4), x -> x.determinant(2, 2),
+            x -> x.determinant(6, 2), x -> x.polynomial(3, 1, 0), x -> x.polynomial(2, 0, 1),
+            x -> x.norm(3, 0), x -> x.rule(1, 2, 1), x -> x.verdict(1), x -> x.value(3, 5, 2, 0),
+            x -> x.under(2, 0, 1), x -> x.zero(3, 2, 9), x -> x.weight(127, -9, 0),
+            x -> x.weight(1 << 9, 0, 0), x -> x.exact(5 << 8), x -> x.exact(127), x -> x.exact(255),
+            x -> x.fraction(2, 3, 1, 0), x -> x.fraction(1, 0, 1, 0), x -> x.step(1, 0),
+            x -> x.step(4, 1), x -> x.step(7, 0), x -> x.told(4), x -> x.told(6),
+            x -> x.digest()};
+        int last = questions.length - 1;
+        for (int i = 0; i <= last; i++) {
+            for (int k = 0; k < last; k++) {
+                CHECK.sameAfter("question " + k + " behind question " + i, row(MANY),
+                        questions[i], questions[k]);
+            }
+        }
     }
 
     private static void fractionsInLowestTerms() {

@@ -425,6 +425,12 @@ public final class TextTest {
         CHECK.due("K", x.told(4), 7);
         CHECK.due("a text more", x.type('x'), 4);
         CHECK.due("its fault", x.reads(), -13);
+        SquaredRows much = Check.text("m 1 2 3 4 5 6 7;".repeat(6) + "l;l;", 3).get();
+        for (int time = 1; time <= 30; time++) {
+            CHECK.due("much", much.reads(), 8);
+            CHECK.due("K", much.told(4), 5);
+            CHECK.due("m4", much.of(4), 5);
+        }
     }
 
     private static void nothingCounts() {
