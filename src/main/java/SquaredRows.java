@@ -549,6 +549,7 @@ public final class SquaredRows {
         private final int[] moments;
         private final long[] next;
         private final Product power;
+        /** 1 to 7: whatever sets it looks at that first, so that it bounds the indices below. */
         private int count;
 
         Row() {
@@ -677,6 +678,9 @@ public final class SquaredRows {
         }
 
         private int takeNext(int number) {
+            if (isOutside(number, 1, MOST_MOMENTS)) {
+                return NO;
+            }
             for (int j = 0; j < number; j++) {
                 if (next[j] < -FAR_MOMENT || next[j] > FAR_MOMENT) {
                     return NO;
@@ -700,7 +704,8 @@ public final class SquaredRows {
         }
 
         void load(int[] saved, int from) {
-            if (from < 0 || from > saved.length - 1 - MOST_MOMENTS) {
+            if (from < 0 || from > saved.length - 1 - MOST_MOMENTS
+                    || isOutside(saved[from], 1, MOST_MOMENTS)) {
                 return;
             }
             count = saved[from];

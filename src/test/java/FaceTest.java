@@ -8,6 +8,7 @@ import java.nio.file.Path;
 import java.util.Random;
 import java.util.Set;
 import java.util.TreeSet;
+import java.util.regex.MatchResult;
 import java.util.regex.Pattern;
 
 /** The face of the class, the language's rules that a text search can see, odd arguments. */
@@ -27,11 +28,19 @@ public final class FaceTest {
         "\\bimport\\b", "\\bpackage\\b", "->", "::", "Exact\\b", "\\bSystem\\.(?!arraycopy)",
         "\\bprotected\\b", "\\bhashCode\\b", "\\btoString\\b", "\\bdouble\\b", "\\bfloat\\b",
         "static\\s*\\{", "\\[\\]\\s*\\[\\]\\s*\\[\\]", "\"\\s*\\+", "\\+\\s*\""};
+    /** All that the class takes of the library. */
+    private static final Set<String> QUALIFIERS = Set.of("Integer.bitCount", "Math.abs");
+    private static final Pattern QUALIFIED = Pattern.compile("\\b[A-Z]\\w*\\.\\w+");
+    /** From a method's or constructor's head to the brace that stands under its first sign. */
+    private static final Pattern METHOD = Pattern.compile("(?ms)^( {4}| {8})"
+            + "(?!(?:if|for|while|switch|return)\\b)\\w[\\w\\[\\] ]*"
+            + "\\([^;{}]*\\) \\{\n.*?^\\1\\}$");
     private static int wrong;
 
     public static void main(String[] args) throws IOException {
         face();
         source();
+        sizes();
         oddArguments();
         System.out.println(wrong + " faults of the face or the source");
         if (wrong != 0) {
@@ -115,6 +124,43 @@ public final class FaceTest {
         for (String word : FORBIDDEN) {
             due("the source has " + word, Pattern.compile(word).matcher(code).find(), false);
         }
+    }
+
+    /** Rules 4 and 11: the library's functions, parameters, lines of methods, classes. */
+    private static void sizes() throws IOException {
+        String text = Files.readString(Path.of("src/main/java/SquaredRows.java"));
+        String code = text.replaceAll("(?s)/\\*.*?\\*/", "").replaceAll("//[^\n]*", "");
+        QUALIFIED.matcher(code).results().forEach(found ->
+                due("of the library: " + found.group(), QUALIFIERS.contains(found.group()), true));
+        int methods = 0;
+        for (MatchResult method : METHOD.matcher(code).results().toList()) {
+            methods++;
+            due("short: " + method.group().lines().findFirst().get().trim(),
+                    method.group().lines().count() <= 60, true);
+        }
+        due("methods in the source", methods, countMethods(SquaredRows.class));
+        due("few classes", countClasses(SquaredRows.class) <= 12, true);
+    }
+
+    private static int countClasses(Class<?> c) {
+        int number = 1;
+        for (Class<?> inside : c.getDeclaredClasses()) {
+            number += countClasses(inside);
+        }
+        return number;
+    }
+
+    /** Methods and constructors, those of the classes inside too. */
+    private static int countMethods(Class<?> c) {
+        int number = c.getDeclaredConstructors().length;
+        for (Method method : c.getDeclaredMethods()) {
+            due("parameters of " + method, method.getParameterCount() <= 7, true);
+            number++;
+        }
+        for (Class<?> inside : c.getDeclaredClasses()) {
+            number += countMethods(inside);
+        }
+        return number;
     }
 
     /** No call may throw, whatever its arguments and the state are. */
